@@ -1,6 +1,9 @@
 import java.lang.reflect.InvocationTargetException;
 import java.lang.reflect.Method;
+import java.lang.reflect.Modifier;
 import java.nio.charset.StandardCharsets;
+import java.util.Arrays;
+import java.util.List;
 
 /** Counts answers that are not due; calls go by name, so that a throw is an answer too. */
 final class Check {
@@ -9,6 +12,9 @@ final class Check {
     static final String TOO_MANY = "UnsupportedOperationException";
     static final String WRONG_STATE = "IllegalStateException";
 
+    /** Methods of tests that only hand a call on: a failure is told by the line that called them. */
+    private static final List<String> WRAPPERS = List.of("due", "noSuch", "wrongArgument", "tooMany", "wrongState");
+
     private static int wrong = 0;
 
     private Check() {
@@ -16,7 +22,7 @@ final class Check {
 
     static Method method(Class<?> type, String name) {
         for (Method method : type.getDeclaredMethods()) {
-            if (method.getName().equals(name) && java.lang.reflect.Modifier.isPublic(method.getModifiers())) {
+            if (method.getName().equals(name) && Modifier.isPublic(method.getModifiers())) {
                 return method;
             }
         }
@@ -40,7 +46,7 @@ final class Check {
     static void due(Object want, LampSheets x, String name, Object... args) {
         String got = answer(x, name, args);
         if (!got.equals(String.valueOf(want))) {
-            fail(name + java.util.Arrays.toString(args) + " answered " + got + ", due is " + want);
+            fail(name + Arrays.toString(args) + " answered " + got + ", due is " + want);
         }
     }
 
@@ -49,7 +55,7 @@ final class Check {
         StackTraceElement[] trace = new Throwable().getStackTrace();
         String where = "";
         for (StackTraceElement step : trace) {
-            if (!step.getClassName().equals("Check")) {
+            if (!step.getClassName().equals("Check") && !WRAPPERS.contains(step.getMethodName())) {
                 where = step.toString();
                 break;
             }

@@ -63,6 +63,9 @@ public final class RandomRunsTest {
         log.append("seed ").append(seed).append('\n');
         int sheets = 1 + below(6);
         int slots = 1 + below(4);
+        if (below(2) == 0) {
+            furnish(sheets, slots);
+        }
         for (int i = 0; i < 400 - below(300) && !failed; i++) {
             if (Integer.parseInt(call("count", 0)) < sheets && below(3) == 0) {
                 makeSheet();
@@ -75,6 +78,26 @@ public final class RandomRunsTest {
                 }
             } else {
                 someCall(CALLS[below(CALLS.length)]);
+            }
+        }
+    }
+
+    /** Begins with much that is there already, so that the searches have something to do. */
+    private void furnish(int sheets, int slots) {
+        for (int i = 0; i < sheets; i++) {
+            makeSheet();
+        }
+        for (int i = 0; i < slots; i++) {
+            call("slot", 1 + below(3), below(8) - 3, below(8) - 3);
+        }
+        call("lamp", below(2));
+        for (int i = 0; i < 3; i++) {
+            textCall("scene");
+        }
+        for (int i = 0; i < 10; i++) {
+            call("put", near(slots), below(sheets + 1) - 1);
+            if (below(2) == 0) {
+                call("frame");
             }
         }
     }
