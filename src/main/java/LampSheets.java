@@ -467,14 +467,13 @@ public final class LampSheets {
         }
     }
 
-    /* The view 0 is looked at already; its shadow of the sheet in the slot is cast again and again. */
+    /* The view 0 is looked at already; only its shadow of the sheet in the slot is cast otherwise. */
     private boolean otherAnew(int slot, int scene, int seat, int cell) {
         int cells = now.cells[now.setting[slot]];
         stage.cast(0, slot, now.setting[slot], seat, cells | cell);
         int withIt = stage.misses(0, scene, now.setting);
         stage.cast(0, slot, now.setting[slot], seat, cells & ~cell);
         int without = stage.misses(0, scene, now.setting);
-        stage.cast(0, slot, now.setting[slot], seat, cells);
         boolean isDark = (cells & cell) != 0;
         return isDark ? without < withIt : withIt < without;
     }

@@ -55,6 +55,7 @@ public final class PromiseTest {
         guess();
         image();
         back();
+        backToMany();
         count();
         Check.end();
     }
@@ -492,6 +493,10 @@ public final class PromiseTest {
         due(2, x, "shade", 12, 0, -1);
         x.lamp(1);
         due(1, x, "shade", 24 + 3, 0, 0);
+        due(0, x, "shade", 24 + 1, 0, 0);
+        due(1, x, "shade", 24 + 2, 0, 0);
+        due(1, x, "shade", 24 + 4, 0, 0);
+        due(0, x, "shade", 24 + 5, 0, 0);
         noSuch(x, "shade", -1, 0, 0);
         noSuch(x, "shade", 144, 0, 0);
         noSuch(x, "shade", 0, -1, 0);
@@ -799,6 +804,15 @@ public final class PromiseTest {
         due(1, x, "shaped", 2, bits(9, 8, 7));
         due(2, x, "shaped", 2, bits(23, 18, 13));
         due(2, x, "shaped", 2, bits(15, 16, 17));
+        due(2, x, "shaped", 0, ALL & ~bits(20, 24));
+        due(2, x, "shaped", 0, ALL & ~bits(4, 24));
+        LampSheets y = made(only());
+        due(2, y, "shaped", 0, bits(2, 3, 4, 7, 9, 12, 13, 14));
+        due(2, y, "shaped", 0, bits(10, 11, 12, 15, 17, 20, 21, 22));
+        due(2, y, "shaped", 0, bits(4, 14));
+        due(2, y, "shaped", 0, bits(20, 22, 23, 24));
+        due(NONE, y, "shaped", 0, bits(0, 2, 4));
+        due(0, y, "shaped", 0, 0);
         wrongArgument(x, "shaped", 0, -1);
         wrongArgument(x, "shaped", 0, ALL + 1);
         noSuch(x, "shaped", 3, -1);
@@ -1183,6 +1197,37 @@ public final class PromiseTest {
         due(1, x, "frame");
         due(1, x, "slot", 1, 0, 0);
         due(NONE, x, "in", 1);
+    }
+
+    private static void backToMany() {
+        LampSheets x = made(only(0), only(0), only(0), only(0), only(0), only(0));
+        for (int slot = 0; slot < 4; slot++) {
+            x.slot(1, slot, slot);
+        }
+        for (int n = 0; n < 12; n++) {
+            x.put(n % 4, n % 6);
+            x.frame();
+        }
+        for (int n = 0; n < 6; n++) {
+            scene(x, "dark " + n + " 0 1 1");
+            x.seen(n, n % 3, n - 2);
+        }
+        rules(x, "apart 0 1;".repeat(19) + "never 5 3");
+        x.image();
+        int row = x.row();
+        int together = x.together(NONE);
+        x.put(0, NONE);
+        rules(x, "");
+        x.back();
+        due(row, x, "row");
+        due(together, x, "together", NONE);
+        due(2, x, "told", 5, 5);
+        x.take(0);
+        x.put(3, 5);
+        due(false, x, "allowed");
+        for (int what = 0; what <= 4; what++) {
+            due(new int[] {6, 4, 6, 12, 6}[what], x, "count", what);
+        }
     }
 
     private static void count() {
