@@ -790,14 +790,7 @@ public final class LampSheets {
             }
             int command = commands * COMMAND;
             found[command] = kind;
-            if (!parseNumbers(kind, command)) {
-                return false;
-            }
             commands++;
-            return true;
-        }
-
-        private boolean parseNumbers(int kind, int command) {
             if (grammar == RULES) {
                 return parsePair(kind, command);
             }
@@ -1446,24 +1439,21 @@ public final class LampSheets {
             for (int a = NONE; a < choices(0); a++) {
                 trial[0] = a;
                 for (int b = NONE; b < choices(1); b++) {
-                    if (!clash(b, a)) {
-                        trial[1] = b;
-                        searchBehind(a, b);
+                    if (clash(b, a)) {
+                        continue;
                     }
-                }
-            }
-        }
-
-        private void searchBehind(int a, int b) {
-            for (int c = NONE; c < choices(2); c++) {
-                if (clash(c, a) || clash(c, b)) {
-                    continue;
-                }
-                trial[2] = c;
-                for (int d = NONE; d < choices(3); d++) {
-                    if (!clash(d, a) && !clash(d, b) && !clash(d, c)) {
-                        trial[3] = d;
-                        weigh();
+                    trial[1] = b;
+                    for (int c = NONE; c < choices(2); c++) {
+                        if (clash(c, a) || clash(c, b)) {
+                            continue;
+                        }
+                        trial[2] = c;
+                        for (int d = NONE; d < choices(3); d++) {
+                            if (!clash(d, a) && !clash(d, b) && !clash(d, c)) {
+                                trial[3] = d;
+                                weigh();
+                            }
+                        }
                     }
                 }
             }

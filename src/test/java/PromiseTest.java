@@ -332,6 +332,7 @@ public final class PromiseTest {
         wrongStrokes(0, "Cut 0 0 1 1");
         wrongStrokes(0, "cu");
         wrongStrokes(0, "cuts 0 0 1 1");
+        wrongStrokes(0, "cutz 0 0 1 1");
         wrongStrokes(0, "5");
         wrongStrokes(3, "cut");
         wrongStrokes(5, "cut  ");
@@ -546,6 +547,15 @@ public final class PromiseTest {
         due(64, x, "shades", 2, 0, 0);
         due(36, x, "shades", 1, 0, 0);
         due(44, x, "shades", 0, 0, 0);
+        LampSheets y = made(only(0), only(0));
+        y.slot(2, 0, 0);
+        y.slot(2, 1, 1);
+        y.lamp(1);
+        y.put(0, 0);
+        y.put(1, 1);
+        due(1, y, "shades", 2, 0, 0);
+        due(6, y, "shades", 1, 0, 0);
+        due(137, y, "shades", 0, 0, 0);
         wrongArgument(x, "shades", 3, 0, 0);
         wrongArgument(x, "shades", -1, 0, 0);
         noSuch(x, "shades", 3, 3, 0);
@@ -806,6 +816,13 @@ public final class PromiseTest {
         due(2, x, "shaped", 2, bits(15, 16, 17));
         due(2, x, "shaped", 0, ALL & ~bits(20, 24));
         due(2, x, "shaped", 0, ALL & ~bits(4, 24));
+        LampSheets odd = made(only(0, 2, 6, 13));
+        due(1, odd, "shaped", 0, bits(4, 14, 8, 17));
+        due(1, odd, "shaped", 0, bits(4, 2, 8, 11));
+        due(2, odd, "shaped", 0, bits(24, 22, 18, 11));
+        due(2, odd, "shaped", 0, bits(0, 10, 6, 17));
+        due(2, odd, "shaped", 0, bits(24, 14, 18, 7));
+        due(NONE, odd, "shaped", 0, bits(20, 10, 16, 7));
         LampSheets y = made(only());
         due(2, y, "shaped", 0, bits(2, 3, 4, 7, 9, 12, 13, 14));
         due(2, y, "shaped", 0, bits(10, 11, 12, 15, 17, 20, 21, 22));
