@@ -13,7 +13,8 @@ final class Check {
     static final String WRONG_STATE = "IllegalStateException";
 
     /** Methods of tests that only hand a call on: a failure is told by the line that called them. */
-    private static final List<String> WRAPPERS = List.of("due", "noSuch", "wrongArgument", "tooMany", "wrongState");
+    private static final List<String> WRAPPERS = List.of("due", "noSuch", "wrongArgument", "tooMany", "wrongState",
+            "refused", "answers", "index", "argument", "wrongBelow", "sceneLightSeat");
 
     private static int wrong = 0;
 
