@@ -252,8 +252,9 @@ final class FrameBounds {
         Edge.sheet(x, 1, "");
         x.slot(1, 0, 0);
         x.put(0, 0);
-        Edge.scene(x, "");
+        Edge.scene(x, "dark 0 0 12 12;half 0 0 12 5;any 0 0 12 2");
         x.frame();
+        x.play(5);
         x.seen(0, 0, 0);
         x.lamp(1);
         x.hands(1);
@@ -262,10 +263,17 @@ final class FrameBounds {
         for (int what = 0; what <= 9; what++) {
             due(what == 6 ? 2 : 0, x, "count", what);
         }
-        due(0, x, "sheet", 1);
+        due(0, x, "sheet", 2);
+        due(0, x, "uses", 0);
         due(0, x, "slot", 1, 0, 0);
         due(NONE, x, "in", 0);
-        due(0, x, "uses", 0);
+        due(0, x, "scene");
+        for (int spot = 0; spot < 144; spot++) {
+            due(0, x, "told", 0, spot);
+        }
+        x.put(0, 0);
+        due(0, x, "shades", 2, 0, 0);
+        due(25, x, "shades", 2, 1, 0);
     }
 
     static void promise44TheLatestIsTheOne() {
@@ -384,6 +392,40 @@ final class FrameBounds {
         due(twin.row(), x, "row");
         due(twin.together(NONE), x, "together", NONE);
         due(twin.guess(NONE), x, "guess", NONE);
+    }
+
+    static void promise45TheRulesAreThoseOfTheImage() {
+        LampSheets x = Edge.made("", "");
+        x.slot(1, 0, 0);
+        Edge.rules(x, "with 0 1;never 0 0");
+        x.image();
+        Edge.rules(x, "never 1 0;never 1 0");
+        due(true, x, "back");
+        due(2, x, "count", 9);
+        x.put(0, 1);
+        due(false, x, "allowed");
+        Edge.rules(x, "");
+        due(true, x, "allowed");
+        due(true, x, "back");
+        due(2, x, "count", 9);
+        x.put(0, 0);
+        due(false, x, "allowed");
+    }
+
+    static void promise45OrderOfTheFramesThatAreLeft() {
+        LampSheets x = chest();
+        keep(x);
+        keep(x, 0);
+        keep(x, 0, 1);
+        x.image();
+        keep(x, 3, 4, 5);
+        keep(x, 5, 4, 3);
+        keep(x, 1, 2, 3, 4);
+        keep(x, 4, 3, 2, 1);
+        keep(x, 2, 1);
+        x.order(NONE);
+        due(true, x, "back");
+        dueOrder(x, 4, 0, 1, 2);
     }
 
     static void promise45FewerThingsAreThere() {

@@ -101,6 +101,19 @@ final class SceneBounds {
         }
     }
 
+    static void promise19HalfIsNotTwoHalves() {
+        LampSheets x = Edge.made(Edge.only(0), Edge.only(0));
+        x.lamp(1);
+        x.slot(2, 0, 0);
+        x.slot(2, 1, 1);
+        x.put(0, 0);
+        x.put(1, 1);
+        told(x, "any 0 0 12 12;half 1 1 1 1", "any 0 0 12 12;half 0 0 1 1", "any 0 0 12 12;dark 1 1 1 1");
+        due(1, x, "wrong", 0, 0, 0, NONE);
+        due(0, x, "wrong", 1, 0, 0, NONE);
+        due(0, x, "wrong", 2, 0, 0, NONE);
+    }
+
     static void promise20NoSuchSceneLightSeat() {
         sceneLightSeat("best", 0, 0, 0, 0, NONE);
         sceneLightSeat("best", 0, 0, 0, 0, 0);
@@ -138,6 +151,24 @@ final class SceneBounds {
         due(0, x, "best", 0, 0, 0, NONE);
         due(0, x, "best", 0, 0, 0, 0);
         due(1, x, "best", 0, 0, 0, 1);
+    }
+
+    /** Two sheets behind the slot 0, or one sheet in it: nothing is wrong by either. */
+    private static LampSheets oneOrTwo() {
+        LampSheets x = Edge.made(Edge.only(0, 1), Edge.only(0), Edge.only(0));
+        x.slot(1, 0, 0);
+        x.slot(1, 0, 0);
+        x.slot(1, 1, 0);
+        Edge.rules(x, "never 0 1;never 0 2");
+        return told(x, "dark 0 0 2 1");
+    }
+
+    static void promise20FewestSheetsGoAheadOfNoneInSlotZero() {
+        LampSheets x = oneOrTwo();
+        due(0, x, "best", 0, 0, 0, NONE);
+        due(0, x, "best", 0, 0, 0, 0);
+        due(NONE, x, "best", 0, 0, 0, 1);
+        due(NONE, x, "best", 0, 0, 0, 2);
     }
 
     static void promise20LesserSheetFirst() {
@@ -320,6 +351,15 @@ final class SceneBounds {
         due(2, x, "step", 0, 0, 0);
     }
 
+    static void promise23SixSheetsAndRules() {
+        LampSheets x = told(alike(6, 1), "dark 0 0 1 1", "");
+        Edge.rules(x, "with 0 1");
+        due(3, x, "step", 0, 0, 0);
+        Edge.rules(x, "with 0 1;with 1 2;with 2 3;with 3 4");
+        due(6, x, "step", 0, 0, 0);
+        due(NONE, x, "step", 1, 0, 0);
+    }
+
     static void promise23NothingIsPut() {
         LampSheets x = told(alike(2, 1), "dark 0 0 1 1");
         x.step(0, 0, 0);
@@ -393,6 +433,38 @@ final class SceneBounds {
         due(NONE, x, "together", 1);
     }
 
+    static void promise31FewestSheetsGoAheadOfNoneInSlotZero() {
+        LampSheets x = oneOrTwo();
+        x.seen(0, 0, 0);
+        due(0, x, "together", 0);
+        due(NONE, x, "together", 1);
+        due(NONE, x, "together", 2);
+    }
+
+    /** A sheet by each light, a scene by each light and from another seat. */
+    private static LampSheets threeViews() {
+        LampSheets x = new LampSheets();
+        for (int light = 0; light < 3; light++) {
+            Edge.sheet(x, 1 << light, Edge.only(0));
+        }
+        x.slot(2, 4, 0);
+        x.slot(2, 4, 4);
+        told(x, "dark 5 0 2 2", "dark 2 4 2 2", "");
+        x.seen(0, 0, 1);
+        x.seen(1, 1, -2);
+        x.seen(2, 2, 3);
+        return x;
+    }
+
+    static void promise31EachByItsLightAndSeat() {
+        LampSheets x = threeViews();
+        due(0, x, "together", NONE);
+        due(0, x, "together", 0);
+        due(1, x, "together", 1);
+        x.seen(0, 0, 0);
+        due(4, x, "together", NONE);
+    }
+
     static void promise32NoSuchSceneLightSeat() {
         sceneLightSeat("bound", 0, 0, 0, 0);
     }
@@ -451,6 +523,17 @@ final class SceneBounds {
         due(144, x, "helps", 0, 1, 0, 0);
         due(0, x, "helps", 0, 2, 0, 0);
         due(0, x, "in", 0);
+    }
+
+    static void promise33OthersStay() {
+        LampSheets x = Edge.made(Edge.only(0), Edge.only(1));
+        x.slot(1, 0, 0);
+        x.slot(1, 0, 0);
+        x.put(0, 0);
+        x.put(1, 1);
+        told(x, "dark 0 0 2 1");
+        due(1, x, "helps", 0, 0, 0, 0);
+        due(1, x, "helps", 1, 0, 0, 0);
     }
 
     static void promise33WithoutThatLight() {
@@ -618,6 +701,22 @@ final class SceneBounds {
         due(1, x, "guess", NONE);
         x.seen(2, 0, 0);
         due(0, x, "guess", NONE);
+    }
+
+    static void promise43EachByItsLightAndSeat() {
+        LampSheets x = threeViews();
+        due(1, x, "guess", NONE);
+        due(0, x, "guess", 0);
+        due(1, x, "guess", 1);
+    }
+
+    static void promise43FewestSheetsGoAheadOfNoneInSlotZero() {
+        LampSheets x = oneOrTwo();
+        x.seen(0, 0, 0);
+        due(11, x, "guess", NONE);
+        due(0, x, "guess", 0);
+        due(NONE, x, "guess", 1);
+        due(NONE, x, "guess", 2);
     }
 
     static void promise43TheFirstOfSeveral() {

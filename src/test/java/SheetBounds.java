@@ -205,6 +205,57 @@ final class SheetBounds {
         due(NONE, x, "shaped", 0, Edge.bits(20, 15, 11));
     }
 
+    static void promise29EveryBoxIsOneStroke() {
+        LampSheets x = Edge.made("", "cut 0 0 5 5");
+        for (int top = 0; top < 5; top++) {
+            for (int left = 0; left < 5; left++) {
+                for (int low = top; low < 5; low++) {
+                    for (int right = left; right < 5; right++) {
+                        int box = box(left, top, right, low);
+                        due(1, x, "shaped", 0, ALL & ~box);
+                        due(1, x, "shaped", 1, box);
+                    }
+                }
+            }
+        }
+    }
+
+    private static int box(int left, int top, int right, int low) {
+        int box = 0;
+        for (int cell = 0; cell < 25; cell++) {
+            boolean inside = cell % 5 >= left && cell % 5 <= right && cell / 5 >= top && cell / 5 <= low;
+            box |= inside ? 1 << cell : 0;
+        }
+        return box;
+    }
+
+    static void promise29TwoCellsAreOneStrokeIfSideBySide() {
+        for (int first = 0; first < 25; first++) {
+            LampSheets x = Edge.made("", "cut 0 0 5 5");
+            for (int second = first + 1; second < 25; second++) {
+                boolean beside = second == first + 5 || second == first + 1 && second % 5 != 0;
+                due(beside ? 1 : 2, x, "shaped", 0, ALL & ~Edge.bits(first, second));
+                due(beside ? 1 : 2, x, "shaped", 1, Edge.bits(first, second));
+            }
+        }
+    }
+
+    static void promise29CutThenPasteAndPasteThenCut() {
+        int ring = Edge.bits(6, 7, 8, 11, 13, 16, 17, 18);
+        due(2, Edge.made(""), "shaped", 0, ALL & ~ring);
+        due(2, Edge.made("cut 0 0 5 5"), "shaped", 0, ring);
+    }
+
+    static void promise29ABoxAheadOfOrBehindATurnOrFlip() {
+        LampSheets x = Edge.made(Edge.only(0, 1, 7));
+        due(2, x, "shaped", 0, Edge.bits(4, 9, 13, 20));
+        due(2, x, "shaped", 0, Edge.bits(4, 3, 7, 20));
+        due(2, x, "shaped", 0, Edge.bits(4, 9));
+        due(2, x, "shaped", 0, Edge.bits(4, 3));
+        due(2, x, "shaped", 0, Edge.bits(24, 19, 13));
+        due(2, x, "shaped", 0, Edge.bits(0, 5, 11));
+    }
+
     static void promise29LooseCellsCountAsWell() {
         due(2, Edge.made(""), "shaped", 0, 1 << 12);
         due(1, Edge.made("cut 0 0 5 5"), "shaped", 0, 1 << 12);

@@ -353,6 +353,35 @@ final class StageBounds {
         due(0, one, "shades", 1, 0, 0);
     }
 
+    static void promise17TwoHalfShadesAreOneWhole() {
+        LampSheets x = lit(1, 2, 0, 0, Edge.only(0));
+        Edge.sheet(x, 7, Edge.only(0));
+        x.slot(2, 1, 1);
+        x.put(1, 1);
+        due(1, x, "shades", 2, 0, 0);
+        due(6, x, "shades", 1, 0, 0);
+        due(137, x, "shades", 0, 0, 0);
+    }
+
+    static void promise17TheSameSheetInASlotOfEachK() {
+        LampSheets x = Edge.made("");
+        int[] full = {144, 100, 25};
+        int[] fullWide = {100, 64, 25};
+        for (int slot = 0; slot < 3; slot++) {
+            x.slot(3 - slot, 0, 0);
+        }
+        for (int slot = 0; slot < 3; slot++) {
+            x.put(slot, 0);
+            x.lamp(0);
+            due(full[slot], x, "shades", 2, 0, 0);
+            due(0, x, "shades", 1, 0, 0);
+            x.lamp(1);
+            due(fullWide[slot], x, "shades", 2, 0, 0);
+            due(full[slot] - fullWide[slot], x, "shades", 1, 0, 0);
+            due(144 - full[slot], x, "shades", 0, 0, 0);
+        }
+    }
+
     static void promise18NoSuchScene() {
         Edge.index("told", 0, 0, 2, 0, 0);
         due(Check.NO_SUCH, Edge.fullHouse(), "told", 6, 0);
@@ -372,6 +401,20 @@ final class StageBounds {
         due(3, x, "told", 0, 132);
         due(0, x, "told", 0, 142);
         due(2, x, "told", 0, 143);
+    }
+
+    static void promise18EachSpotOfSixScenes() {
+        for (int scene = 0; scene < 6; scene++) {
+            LampSheets x = new LampSheets();
+            for (int n = 0; n < 6; n++) {
+                Edge.scene(x, "dark " + n + " 0 1 12;half " + n + " 0 1 1;any 11 " + n + " 1 1");
+            }
+            for (int spot = 0; spot < 144; spot++) {
+                boolean column = spot % 12 == scene;
+                boolean any = spot == at(11, scene);
+                due(any ? 3 : column && spot < 12 ? 1 : column ? 2 : 0, x, "told", scene, spot);
+            }
+        }
     }
 
     static void promise18LastMarkCounts() {
@@ -474,6 +517,18 @@ final class StageBounds {
         due(4, x, "unlike", 0, 1, 0, 0);
         x.lamp(0);
         due(3, x, "unlike", 0, 1, 0, 0);
+    }
+
+    static void promise28HalfInBothIsNotUnlike() {
+        LampSheets x = lit(1, 2, 0, 0, Edge.only(0));
+        Edge.sheet(x, 7, Edge.only(0));
+        x.slot(2, 6, 6);
+        x.frame();
+        x.put(1, 1);
+        x.frame();
+        due(0, x, "unlike", 0, 0, 0, 0);
+        due(4, x, "unlike", 0, 1, 0, 0);
+        due(4, x, "unlike", 1, 0, 0, 0);
     }
 
     static void promise28FrameOfASlotAgo() {

@@ -5,7 +5,9 @@ final class TextBounds {
     private static final int FAR = Edge.FAR;
     private static final int LOW = Edge.LOW;
     private static final int BLANKS = 0x20202020;
+    private static final String[] STROKE_WORDS = {"cut", "paste", "turn", "flip"};
     private static final String[] MARK_WORDS = {"dark", "half", "light", "any"};
+    private static final String[] RULE_WORDS = {"never", "with", "apart", "near"};
 
     private TextBounds() {
     }
@@ -605,6 +607,39 @@ final class TextBounds {
         for (String word : new String[] {"neve", "nevers", "wit", "apar", "nea", "turn", "light"}) {
             wrongRules(0, pair(), word);
             wrongRules(10, pair(), "with 0 1; " + word + " 0 1");
+        }
+    }
+
+    static void promise07WordsOfOtherTexts() {
+        for (String word : MARK_WORDS) {
+            wrongStrokes(0, word + " 0 0 1 1");
+            wrongRules(0, pair(), word + " 0 1");
+        }
+        for (String word : STROKE_WORDS) {
+            wrongMarks(0, word + " 0 0 1 1");
+            wrongRules(0, pair(), word + " 0 1");
+        }
+        for (String word : RULE_WORDS) {
+            wrongStrokes(0, word + " 0 0 1 1");
+            wrongMarks(0, word + " 0 0 1 1");
+        }
+    }
+
+    static void promise07EachLetterOfAWordCounts() {
+        for (String word : STROKE_WORDS) {
+            for (int at = 0; at < word.length(); at++) {
+                wrongStrokes(0, word.substring(0, at) + "q" + word.substring(at + 1) + " 0 0 1 1");
+            }
+        }
+        for (String word : MARK_WORDS) {
+            for (int at = 0; at < word.length(); at++) {
+                wrongMarks(0, word.substring(0, at) + "q" + word.substring(at + 1) + " 0 0 1 1");
+            }
+        }
+        for (String word : RULE_WORDS) {
+            for (int at = 0; at < word.length(); at++) {
+                wrongRules(0, pair(), word.substring(0, at) + "q" + word.substring(at + 1) + " 0 1");
+            }
         }
     }
 
