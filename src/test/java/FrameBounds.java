@@ -412,6 +412,19 @@ final class FrameBounds {
         due(false, x, "allowed");
     }
 
+    static void promise45AllOfTwentyRulesComeBack() {
+        LampSheets x = Edge.made("", "");
+        x.slot(1, 0, 0);
+        Edge.rules(x, Edge.times(19, "never 1 0") + ";never 0 0");
+        x.image();
+        Edge.rules(x, Edge.times(20, "never 1 0"));
+        x.put(0, 0);
+        due(true, x, "allowed");
+        due(true, x, "back");
+        x.put(0, 0);
+        due(false, x, "allowed");
+    }
+
     static void promise45OrderOfTheFramesThatAreLeft() {
         LampSheets x = chest();
         keep(x);

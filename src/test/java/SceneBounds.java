@@ -449,10 +449,10 @@ final class SceneBounds {
         }
         x.slot(2, 4, 0);
         x.slot(2, 4, 4);
-        told(x, "dark 5 0 2 2", "dark 2 4 2 2", "");
-        x.seen(0, 0, 1);
-        x.seen(1, 1, -2);
-        x.seen(2, 2, 3);
+        told(x, "", "dark 5 0 2 2", "dark 2 4 2 2");
+        x.seen(1, 0, 1);
+        x.seen(2, 1, -2);
+        x.seen(0, 2, 3);
         return x;
     }
 
@@ -461,7 +461,7 @@ final class SceneBounds {
         due(0, x, "together", NONE);
         due(0, x, "together", 0);
         due(1, x, "together", 1);
-        x.seen(0, 0, 0);
+        x.seen(1, 0, 0);
         due(4, x, "together", NONE);
     }
 

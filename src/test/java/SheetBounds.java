@@ -240,6 +240,58 @@ final class SheetBounds {
         }
     }
 
+    static void promise29ALineAndACellBesideAreTwoStrokes() {
+        LampSheets x = Edge.made("");
+        for (int n = 0; n < 5; n++) {
+            int line = box(0, n, 4, n);
+            int column = box(n, 0, n, 4);
+            for (int cell = 0; cell < 25; cell++) {
+                due((line >> cell & 1) != 0 ? 1 : 2, x, "shaped", 0, ALL & ~(line | 1 << cell));
+                due((column >> cell & 1) != 0 ? 1 : 2, x, "shaped", 0, ALL & ~(column | 1 << cell));
+            }
+        }
+    }
+
+    /** A stroke goes over all from the first cell to the last, so that it does for those between as well. */
+    static void promise29OneStrokeTakesAllBetween() {
+        for (int before = 0; before < 32; before++) {
+            StringBuilder row = new StringBuilder("turn");
+            StringBuilder column = new StringBuilder("turn");
+            for (int n = 0; n < 5; n++) {
+                if ((before >> n & 1) != 0) {
+                    row.append(";cut ").append(n).append(" 0 1 1");
+                    column.append(";cut 4 ").append(n).append(" 1 1");
+                }
+            }
+            LampSheets x = Edge.made(row.toString(), column.toString());
+            for (int after = 0; after < 32; after++) {
+                if ((before & ~after) == 0 && before != after) {
+                    boolean one = (between(before ^ after) & ~after) == 0;
+                    dueOneStroke(one, x.shaped(0, ALL & ~after));
+                    dueOneStroke(one, x.shaped(1, ALL & ~inLastColumn(after)));
+                }
+            }
+        }
+    }
+
+    private static void dueOneStroke(boolean one, int answer) {
+        if (one != (answer == 1)) {
+            Check.fail("shaped answered " + answer + ", one stroke is " + (one ? "" : "not ") + "enough");
+        }
+    }
+
+    private static int between(int bits) {
+        return (Integer.highestOneBit(bits) << 1) - Integer.lowestOneBit(bits);
+    }
+
+    private static int inLastColumn(int bits) {
+        int cells = 0;
+        for (int n = 0; n < 5; n++) {
+            cells |= (bits >> n & 1) << 5 * n + 4;
+        }
+        return cells;
+    }
+
     static void promise29CutThenPasteAndPasteThenCut() {
         int ring = Edge.bits(6, 7, 8, 11, 13, 16, 17, 18);
         due(2, Edge.made(""), "shaped", 0, ALL & ~ring);
