@@ -113,7 +113,14 @@ final class SheetBounds {
             int bridges = x.bridges(0);
             if (bridges < 0 || Integer.bitCount(bridges) > 4 || (bridges & dark) != 0) {
                 Check.fail("bridges of " + dark + " are " + bridges);
+                continue;
             }
+            for (int cell = 0; cell < 25; cell++) {
+                if ((bridges >> cell & 1) != 0) {
+                    text.append(";paste ").append(cell % 5).append(' ').append(cell / 5).append(" 1 1");
+                }
+            }
+            due(0, Edge.made(text.toString()), "loose", 0);
         }
     }
 
