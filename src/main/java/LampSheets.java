@@ -15,6 +15,8 @@ public final class LampSheets {
     private static final int NOT_ORDERED = -3;
     private static final int NO_GUESS = -2;
     private static final int USES_TO_FRAY = 10;
+    /* No count of spots or moves comes near it. */
+    private static final int MORE_THAN_ANY = 1000000;
 
     private static final int STROKES = 0;
     private static final int MARKS = 1;
@@ -462,7 +464,9 @@ public final class LampSheets {
     }
 
     private void readText(int grammar, int size) {
-        if (!tape.parse(grammar, size, now.sheets, now.slots)) {
+        tape.open(grammar, size, now.sheets, now.slots);
+        if (!tape.parse()) {
+            tape.fault = tape.at;
             throw new IllegalArgumentException("the text is wrong");
         }
     }
@@ -723,8 +727,9 @@ public final class LampSheets {
         /* What the latest text told: commands, each its kind and four numbers. */
         final int[] found = new int[MOST_COMMANDS * COMMAND];
         int commands = 0;
+        /* Where the reading stands: after a text that is wrong, at its first wrong byte. */
+        int at;
         private int size;
-        private int at;
         private int grammar;
         private int sheets;
         private int slots;
@@ -743,7 +748,7 @@ public final class LampSheets {
             return used;
         }
 
-        boolean parse(int grammar, int size, int sheets, int slots) {
+        void open(int grammar, int size, int sheets, int slots) {
             this.grammar = grammar;
             this.size = size;
             this.sheets = sheets;
@@ -751,16 +756,14 @@ public final class LampSheets {
             at = 0;
             commands = 0;
             fault = NONE;
-            skipBlanks();
-            if (at == size || parseCommands()) {
-                return true;
-            }
-            fault = at;
-            return false;
         }
 
         /* When it fails, it stands at the first wrong byte, or at the text's end. */
-        private boolean parseCommands() {
+        boolean parse() {
+            skipBlanks();
+            if (at >= size) {
+                return true;
+            }
             for (int n = 0; n < MOST_COMMANDS; n++) {
                 if (!parseCommand()) {
                     return false;
@@ -1430,7 +1433,7 @@ public final class LampSheets {
 
         /* The setting of nothing comes first and is always permitted, so that something is found. */
         private void searchAll() {
-            fewest = Integer.MAX_VALUE;
+            fewest = MORE_THAN_ANY;
             firstSheets = 0;
             perfect = 0;
             for (int part = 0; part < PARTS; part++) {
@@ -1566,7 +1569,7 @@ public final class LampSheets {
 
         private int nextStop(int bits, int latest) {
             int found = NONE;
-            int least = Integer.MAX_VALUE;
+            int least = MORE_THAN_ANY;
             for (int next = 1; next < frames; next++) {
                 if ((bits >> next - 1 & 1) == 0) {
                     int needed = through(bits, latest, next);

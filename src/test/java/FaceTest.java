@@ -11,12 +11,9 @@ import java.util.HashSet;
 import java.util.List;
 import java.util.Set;
 
-/** The face is that of the document and no more, and the source keeps to what a look at its words can tell. */
+/** The face is that of the document and no more. */
 public final class FaceTest {
-    private static final Path SOURCE = Path.of("src/main/java/LampSheets.java");
     private static final Path DOCUMENT = Path.of("../shared/DOC.md");
-    private static final String[] BARRED = {"import ", "package ", "->", "::", "synchronized", "assert ", "instanceof",
-        "try ", "catch", "finally", "System.out", "Object ", "double", "float", "protected ", "Exact("};
 
     private FaceTest() {
     }
@@ -25,7 +22,6 @@ public final class FaceTest {
         members();
         methods(Files.readString(DOCUMENT));
         names();
-        source(Files.readString(SOURCE));
         Check.end();
     }
 
@@ -96,14 +92,6 @@ public final class FaceTest {
             expect(type.getDeclaredMethods().length > 0, "methods in " + type);
         }
         expect(all.size() <= 12, "twelve classes at most");
-    }
-
-    private static void source(String source) {
-        String code = source.replaceAll("(?s)/\\*.*?\\*/", "").replaceAll("\"[^\"]*\"", "\"\"");
-        for (String word : BARRED) {
-            expect(!code.contains(word), "no '" + word + "' in the source");
-        }
-        expect(source.chars().allMatch(c -> c < 128), "signs up to 127 alone");
     }
 
     private static void expect(boolean holds, String what) {

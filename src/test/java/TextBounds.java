@@ -711,6 +711,12 @@ final class TextBounds {
         wrongStrokes(99, Edge.times(20, "flip") + ",flip");
     }
 
+    static void promise07MoreMustComeBehindTwentyToo() {
+        wrongStrokes(100, Edge.times(20, "flip") + ";");
+        wrongStrokes(102, Edge.times(20, "turn") + ";  ");
+        wrongMarks(280, Edge.times(20, "dark 0 0 12 1") + ";");
+    }
+
     static void promise07LongestText() {
         rightStrokes(ALL & ~1, " ".repeat(389) + "cut 0 0 1 1");
         wrongStrokes(400, " ".repeat(395) + "turn;");
